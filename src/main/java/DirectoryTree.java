@@ -51,6 +51,7 @@ public final class DirectoryTree {
     private final int[] values = new int[VALUE_PLACES];
 
     // The tokens are kept, not what they come to: that may change with every entry and call.
+    // Whether a token's value fits its attribute never changes, so it is settled when it is put.
     private final int[] tokenKind = new int[MOST_TOKENS];
     private final int[] tokenAttribute = new int[MOST_TOKENS];
     private final int[] tokenValue = new int[MOST_TOKENS];

@@ -120,6 +120,15 @@ public final class PromisesTest {
         return x;
     }
 
+    /** Each entry under the one before it. */
+    private static DirectoryTree chain() {
+        DirectoryTree x = new DirectoryTree();
+        for (int entry = 1; entry < 24; entry++) {
+            due("making a chain", x.make(entry - 1, 9 - entry % 10, 0), entry);
+        }
+        return x;
+    }
+
     private static void newObject() {
         DirectoryTree x = new DirectoryTree();
         dueOrder("new", x, 0);
@@ -475,10 +484,7 @@ public final class PromisesTest {
         x.remove(5);
         due("entryAt: the least free number, far behind", x.make(3, 0, 0), 5);
         dueOrder("entryAt: after changes", x, 0, 2, 1, 4, 3, 5);
-        DirectoryTree deep = new DirectoryTree();
-        for (int entry = 1; entry < 24; entry++) {
-            due("entryAt: a deep tree", deep.make(entry - 1, 9 - entry % 10, 0), entry);
-        }
+        DirectoryTree deep = chain();
         for (int k = 0; k < 24; k++) {
             due("entryAt: deep " + k, deep.entryAt(k), k);
         }
@@ -769,6 +775,13 @@ public final class PromisesTest {
         due("count: the false do not count", x.count(0, 2), 3);
         x.token(PRESENT, 0, 0);
         due("count: by the top alone", x.count(0, 2), 1);
+        DirectoryTree deep = chain();
+        deep.token(PRESENT, 0, 0);
+        deep.token(NOT, 0, 0);
+        due("count: a deep tree", deep.count(0, 2), 24);
+        due("count: deep below the root", deep.count(0, 3), 23);
+        due("count: deep children", deep.count(0, 1), 1);
+        due("found: the deepest", deep.found(0, 3, 22), 23);
     }
 
     private static void found() {
@@ -804,6 +817,10 @@ public final class PromisesTest {
         x.put(6, 1, word(3));
         due("different: with common ones", x.different(0), 3);
         due("different: another attribute", x.different(1), 1);
+        x.put(0, 1, word(3));
+        due("different: the root's is no new one", x.different(1), 1);
+        x.put(0, 1, word(4));
+        due("different: the root's own", x.different(1), 2);
         x.drop(2, 0, word(2));
         due("different: another one still has it", x.different(0), 3);
         x.drop(6, 0, word(2));
