@@ -1,36 +1,15 @@
-/** For each promise of the document: ordinary inputs, the edges that it names, and wrong inputs. */
-public final class PromisesTest {
-    private static final int LEAST = Integer.MIN_VALUE;
-    private static final int GREATEST = Integer.MAX_VALUE;
-
-    private static final int PRESENT = 0;
-    private static final int EQUAL = 1;
-    private static final int ATLEAST = 2;
-    private static final int BEGINS = 3;
-    private static final int CONTAINS = 4;
-    private static final int NOT = 5;
-    private static final int AND = 6;
-    private static final int OR = 7;
-
-    private static int checks = 0;
-    private static int wrong = 0;
-
+/** For each promise of the document: ordinary inputs, and the edges and wrong inputs beside them. */
+public final class PromisesTest extends Checks {
     public static void main(String[] args) {
         newObject();
         make();
-        makeTestsInOrder();
         remove();
         removedValuesStayAway();
         move();
-        moveTestsInOrder();
         put();
-        putTestsInOrder();
-        putKnowsWords();
         drop();
         allow();
         token();
-        tokenLimit();
-        tokenTestsInOrder();
         clear();
         entries();
         entryAt();
@@ -40,93 +19,12 @@ public final class PromisesTest {
         atLeast();
         begins();
         contains();
-        impossibleValues();
         connectives();
         filtersFollowTheState();
-        testRefuses();
         count();
         found();
         different();
-        refusedCallsChangeNothing();
-        System.out.println(checks + " answers looked at, " + wrong + " not as due");
-        if (wrong != 0) {
-            System.exit(1);
-        }
-    }
-
-    private static void due(String what, int got, int want) {
-        checks++;
-        if (got != want) {
-            wrong++;
-            System.out.println(what + ": answered " + got + ", due is " + want);
-        }
-    }
-
-    private static int word(int... letters) {
-        int number = 0;
-        for (int i = letters.length - 1; i >= 0; i--) {
-            number = number * 6 + letters[i];
-        }
-        return number;
-    }
-
-    /** What one token alone is for an entry. */
-    private static int alone(DirectoryTree x, int entry, int kind, int attribute, int v) {
-        x.clear();
-        x.token(kind, attribute, v);
-        return x.test(entry);
-    }
-
-    private static void dueOrder(String what, DirectoryTree x, int... want) {
-        due(what + ", entries", x.entries(), want.length);
-        for (int k = 0; k < want.length; k++) {
-            due(what + ", entryAt(" + k + ")", x.entryAt(k), want[k]);
-        }
-        due(what + ", behind the last", x.entryAt(want.length), -2);
-    }
-
-    private static void dueValues(String what, DirectoryTree x, int entry, int attribute, int... want) {
-        for (int k = 0; k < want.length; k++) {
-            due(what + ", valueAt(" + k + ")", x.valueAt(entry, attribute, k), want[k]);
-        }
-        due(what + ", behind the last", x.valueAt(entry, attribute, want.length), -1001);
-    }
-
-    private static void dueFound(String what, DirectoryTree x, int entry, int scope, int... want) {
-        due(what + ", count", x.count(entry, scope), want.length);
-        for (int k = 0; k < want.length; k++) {
-            due(what + ", found(" + k + ")", x.found(entry, scope, k), want[k]);
-        }
-        due(what + ", behind the last", x.found(entry, scope, want.length), -4);
-    }
-
-    /** 1 and 2 under the root by the names 7 and 3; 3 and 4 under 1 by 9 and 0; 5 under 2; 6 under 5. */
-    private static DirectoryTree family() {
-        DirectoryTree x = new DirectoryTree();
-        x.make(0, 7, 0);
-        x.make(0, 3, 1);
-        x.make(1, 9, 2);
-        x.make(1, 0, 3);
-        x.make(2, 5, 0);
-        x.make(5, 5, 1);
-        return x;
-    }
-
-    private static DirectoryTree full() {
-        DirectoryTree x = new DirectoryTree();
-        for (int entry = 1; entry < 24; entry++) {
-            due("filling up", x.make((entry - 1) / 10, (entry - 1) % 10, entry % 4), entry);
-        }
-        return x;
-    }
-
-    /** Each entry under the one before it. */
-    private static DirectoryTree chain() {
-        DirectoryTree x = new DirectoryTree();
-        for (int entry = 1; entry < 24; entry++) {
-            due("making a chain", x.make(entry - 1, 9 - entry % 10, 0), entry);
-        }
-        return x;
+        end();
     }
 
     private static void newObject() {
@@ -173,14 +71,6 @@ public final class PromisesTest {
         due("make: the 25th entry", y.make(23, 0, 0), -5);
         due("make: place again", y.remove(23), 1);
         due("make: the last place", y.make(22, 0, 0), 23);
-    }
-
-    private static void makeTestsInOrder() {
-        DirectoryTree x = full();
-        due("make: -1 before -2", x.make(24, 10, 4), -1);
-        due("make: -2 before -4", x.make(0, 10, 4), -2);
-        due("make: -3 before -4", x.make(0, 0, 4), -3);
-        due("make: -4 before -5", x.make(23, 0, 4), -4);
     }
 
     private static void remove() {
@@ -243,14 +133,6 @@ public final class PromisesTest {
         dueOrder("move: refused ones change nothing", x, 0, 6, 1, 4, 5, 3, 2);
     }
 
-    private static void moveTestsInOrder() {
-        DirectoryTree x = family();
-        due("move: -1 before -2 for the root", x.move(0, 7, 10), -1);
-        due("move: -2 before -3 for the root", x.move(0, 0, 10), -2);
-        due("move: -2 before -3", x.move(1, 3, 10), -2);
-        due("move: -2 before -4", x.move(1, 1, 0), -2);
-    }
-
     private static void put() {
         DirectoryTree x = family();
         due("put: first", x.put(3, 4, 999), 1);
@@ -277,47 +159,6 @@ public final class PromisesTest {
         due("put: allowed beside it", x.put(1, 1, 0), 1);
         due("put: another class allows it", x.put(2, 0, 0), 1);
         due("put: has it", x.put(1, 1, 0), -4);
-    }
-
-    private static void putTestsInOrder() {
-        DirectoryTree x = new DirectoryTree();
-        due("put: -1 before -2", x.put(1, 6, 0), -1);
-        for (int v = 1; v <= 4; v++) {
-            x.put(0, 1, v);
-        }
-        due("put: -4 before -5", x.put(0, 1, 3), -4);
-        due("put: -2 before -5", x.put(0, 1, 6), -2);
-        x.allow(0, 0b000010);
-        due("put: -2 before -3", x.put(0, 0, 6), -2);
-        due("put: -2 before -3 for numbers", x.put(0, 5, 1000), -2);
-    }
-
-    private static boolean isWord(int v) {
-        for (int length = 0; length <= 3; length++) {
-            for (int code = 0; code < 125; code++) {
-                int[] letters = new int[length];
-                for (int i = 0, rest = code; i < length; i++, rest /= 5) {
-                    letters[i] = 1 + rest % 5;
-                }
-                if (word(letters) == v) {
-                    return true;
-                }
-            }
-        }
-        return false;
-    }
-
-    private static void putKnowsWords() {
-        for (int attribute = 0; attribute < 4; attribute++) {
-            DirectoryTree x = new DirectoryTree();
-            for (int v = -2; v < 220; v++) {
-                due("put: word " + v, x.put(0, attribute, v), isWord(v) ? 1 : -2);
-                x.drop(0, attribute, v);
-            }
-        }
-        DirectoryTree x = new DirectoryTree();
-        due("put: far from words", x.put(0, 0, GREATEST), -2);
-        due("put: far below words", x.put(0, 0, LEAST), -2);
     }
 
     private static void drop() {
@@ -403,44 +244,6 @@ public final class PromisesTest {
         due("token: AND of one", x.token(AND, 0, 0), -3);
         due("token: OR of one", x.token(OR, 0, 0), -3);
         due("token: NOT of one", x.token(NOT, 0, 0), 1);
-    }
-
-    private static void tokenLimit() {
-        DirectoryTree x = new DirectoryTree();
-        due("token: refused ones do not count", x.token(NOT, 0, 0), -3);
-        due("token: the first", x.token(PRESENT, 0, 0), 1);
-        for (int put = 2; put <= 20; put++) {
-            due("token: number " + put, x.token(NOT, 0, 0), 1);
-        }
-        due("token: one too many", x.token(NOT, 0, 0), -2);
-        due("token: what stands is as before", x.test(0), 1);
-        due("token: clear", x.clear(), 1);
-        for (int put = 1; put <= 6; put++) {
-            due("token: after clear", x.token(PRESENT, 0, 0), put);
-        }
-        for (int put = 7; put <= 20; put++) {
-            due("token: after clear", x.token(NOT, 0, 0), 6);
-        }
-        due("token: one too many after clear", x.token(AND, 0, 0), -2);
-    }
-
-    private static void tokenTestsInOrder() {
-        DirectoryTree x = new DirectoryTree();
-        for (int put = 1; put <= 6; put++) {
-            x.token(PRESENT, 0, 0);
-        }
-        due("token: -1 before -4", x.token(PRESENT, 6, 0), -1);
-        for (int put = 7; put <= 20; put++) {
-            x.token(NOT, 0, 0);
-        }
-        due("token: -1 before -2", x.token(8, 0, 0), -1);
-        due("token: -2 before -4", x.token(PRESENT, 0, 0), -2);
-        x.clear();
-        x.token(PRESENT, 0, 0);
-        for (int put = 2; put <= 20; put++) {
-            x.token(NOT, 0, 0);
-        }
-        due("token: -2 before -3", x.token(AND, 0, 0), -2);
     }
 
     private static void clear() {
@@ -643,40 +446,13 @@ public final class PromisesTest {
         due("CONTAINS: not allowed", alone(x, 0, CONTAINS, 0, word()), 2);
     }
 
-    private static void impossibleValues() {
-        DirectoryTree x = new DirectoryTree();
-        x.put(0, 0, word(1));
-        x.put(0, 4, 1);
-        for (int kind = EQUAL; kind <= CONTAINS; kind++) {
-            for (int v : new int[] {-1, 6, 12, 36, 37, 42, 216, 217, LEAST, GREATEST}) {
-                due("token " + kind + ": no word " + v, alone(x, 0, kind, 0, v), 2);
-                due("token " + kind + ": no word, no values", alone(x, 0, kind, 3, v), 2);
-            }
-            for (int v : new int[] {-1000, 1000, LEAST, GREATEST}) {
-                due("token " + kind + ": no number " + v, alone(x, 0, kind, 4, v), 2);
-                due("token " + kind + ": no number, no values", alone(x, 0, kind, 5, v), 2);
-            }
-        }
-        due("EQUAL: least number", alone(x, 0, EQUAL, 5, -999), 0);
-        due("ATLEAST: least number", alone(x, 0, ATLEAST, 4, -999), 1);
-        due("ATLEAST: greatest number", alone(x, 0, ATLEAST, 4, 999), 0);
-    }
-
-    /** Puts a token that is true, false or undefined (2) for the root of an object with the value 1 for 4. */
-    private static void putConstant(DirectoryTree x, int truth) {
-        x.token(EQUAL, 4, truth == 1 ? 1 : truth == 0 ? 2 : 1000);
-    }
-
     private static void connectives() {
-        int[] not = {1, 0, 2};
-        int[][] and = {{0, 0, 0}, {0, 1, 2}, {0, 2, 2}};
-        int[][] or = {{0, 1, 2}, {1, 1, 1}, {2, 1, 2}};
         for (int f = 0; f <= 2; f++) {
             DirectoryTree x = new DirectoryTree();
             x.put(0, 4, 1);
             putConstant(x, f);
             x.token(NOT, 0, 0);
-            due("NOT " + f, x.test(0), not[f]);
+            due("NOT " + f, x.test(0), NOT_OF[f]);
             for (int g = 0; g <= 2; g++) {
                 for (int under = 0; under <= 2; under++) {
                     x.clear();
@@ -684,18 +460,18 @@ public final class PromisesTest {
                     putConstant(x, f);
                     putConstant(x, g);
                     x.token(AND, 0, 0);
-                    due(f + " AND " + g, x.test(0), and[f][g]);
+                    due(f + " AND " + g, x.test(0), AND_OF[f][g]);
                     x.token(OR, 0, 0);
-                    due(under + " OR (" + f + " AND " + g + ")", x.test(0), or[under][and[f][g]]);
+                    due(under + " OR (" + f + " AND " + g + ")", x.test(0), OR_OF[under][AND_OF[f][g]]);
                     x.clear();
                     putConstant(x, under);
                     putConstant(x, f);
                     putConstant(x, g);
                     x.token(OR, 0, 0);
-                    due(f + " OR " + g, x.test(0), or[f][g]);
+                    due(f + " OR " + g, x.test(0), OR_OF[f][g]);
                     x.token(NOT, 0, 0);
                     x.token(AND, 0, 0);
-                    due(under + " AND NOT (" + f + " OR " + g + ")", x.test(0), and[under][not[or[f][g]]]);
+                    due(under + " AND NOT (" + f + " OR " + g + ")", x.test(0), AND_OF[under][NOT_OF[OR_OF[f][g]]]);
                 }
             }
         }
@@ -710,7 +486,7 @@ public final class PromisesTest {
         for (int at = 4; at >= 0; at--) {
             boolean isAnd = at % 2 == 0;
             x.token(isAnd ? AND : OR, 0, 0);
-            want = isAnd ? and[stack[at]][want] : or[stack[at]][want];
+            want = isAnd ? AND_OF[stack[at]][want] : OR_OF[stack[at]][want];
             due("six filters: down to " + at, x.test(0), want);
         }
     }
@@ -729,18 +505,6 @@ public final class PromisesTest {
         due("filter: another class", x.test(0), 0);
         x.allow(1, 32);
         due("filter: allowed again", x.test(1), 0);
-    }
-
-    private static void testRefuses() {
-        DirectoryTree x = new DirectoryTree();
-        for (int entry : new int[] {-1, 1, 24, LEAST, GREATEST}) {
-            due("test: -1 before -2, entry " + entry, x.test(entry), -1);
-        }
-        due("test: empty", x.test(0), -2);
-        x.token(PRESENT, 0, 0);
-        for (int entry : new int[] {-1, 1, 24, LEAST, GREATEST}) {
-            due("test: entry " + entry, x.test(entry), -1);
-        }
     }
 
     private static void dueSearchRefusals(String what, DirectoryTree x, int entry, int scope, int want) {
@@ -837,30 +601,5 @@ public final class PromisesTest {
             }
         }
         due("different: as many as can be", y.different(5), 96);
-    }
-
-    private static void refusedCallsChangeNothing() {
-        DirectoryTree x = family();
-        x.put(1, 0, word(1));
-        x.token(PRESENT, 0, 0);
-        x.make(7, 0, 0);
-        x.make(0, 10, 0);
-        x.make(0, 7, 0);
-        x.make(0, 8, 4);
-        x.remove(0);
-        x.remove(7);
-        x.put(1, 0, word(1));
-        x.put(1, 0, 6);
-        x.put(1, 6, 0);
-        x.drop(1, 0, word(2));
-        x.allow(0, 62);
-        x.allow(0, 64);
-        x.token(AND, 0, 0);
-        x.token(8, 0, 0);
-        dueOrder("refused: the tree", x, 0, 2, 5, 6, 1, 4, 3);
-        dueValues("refused: the values", x, 1, 0, word(1));
-        due("refused: the classes", x.allow(0, 63), 63);
-        due("refused: the filter", x.test(1), 1);
-        due("refused: the stack", x.clear(), 1);
     }
 }
