@@ -475,20 +475,6 @@ public final class PromisesTest extends Checks {
                 }
             }
         }
-        DirectoryTree x = new DirectoryTree();
-        x.put(0, 4, 1);
-        int[] stack = {2, 1, 0, 2, 1, 0};
-        for (int truth : stack) {
-            putConstant(x, truth);
-        }
-        due("six filters: the top", x.test(0), 0);
-        int want = 0;
-        for (int at = 4; at >= 0; at--) {
-            boolean isAnd = at % 2 == 0;
-            x.token(isAnd ? AND : OR, 0, 0);
-            want = isAnd ? AND_OF[stack[at]][want] : OR_OF[stack[at]][want];
-            due("six filters: down to " + at, x.test(0), want);
-        }
     }
 
     private static void filtersFollowTheState() {

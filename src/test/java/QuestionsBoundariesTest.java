@@ -59,6 +59,8 @@ public final class QuestionsBoundariesTest extends Checks {
         due("after a removal of 21", x.entries(), 3);
         x.remove(1);
         due("1 went, 23 had moved away", x.entries(), 2);
+        x.make(23, 0, 0);
+        due("with a number again that was free", x.entries(), 3);
     }
 
     private static void entryAtFirstAndLast() {
@@ -353,6 +355,7 @@ public final class QuestionsBoundariesTest extends Checks {
         putTrue(x);
         int[] order = {0, 1, 11, 12, 13, 14, 15, 16, 17, 18, 19, 20, 2, 21, 22, 23, 3, 4, 5, 6, 7, 8, 9, 10};
         dueFound("all 24", x, 0, 2, order);
+        dueFound("four of them", x, 2, 2, 2, 21, 22, 23);
         x.put(0, 0, 0);
         x.put(10, 0, 0);
         due("the first that is true", x.found(0, 2, 0), 1);

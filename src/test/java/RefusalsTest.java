@@ -8,7 +8,7 @@ import java.util.function.ToIntFunction;
  * are made in the order in which they are named, and questions change nothing.
  */
 public final class RefusalsTest extends Checks {
-    private static final int LOOKS = 13;
+    private static final int LOOKS = 14;
 
     public static void main(String[] args) {
         changesNothing();
@@ -104,6 +104,7 @@ public final class RefusalsTest extends Checks {
             case 10: lookAtAllowed(x, seen); break;
             case 11: lookAtClasses(x, seen); break;
             case 12: lookAtFreeNumbers(x, seen); break;
+            case 13: lookAtScopes(x, seen); break;
             default: lookAtValues(x, look, seen);
         }
         return seen;
@@ -174,6 +175,18 @@ public final class RefusalsTest extends Checks {
         for (int entry = 0; entry < 24; entry++) {
             seen.add(x.make(entry, 4, 0));
         }
+        for (int k = 0; k <= 24; k++) {
+            seen.add(x.entryAt(k));
+        }
+    }
+
+    private static void lookAtScopes(DirectoryTree x, List<Integer> seen) {
+        for (int entry = 0; entry < 24; entry++) {
+            for (int scope = 0; scope <= 3; scope++) {
+                seen.add(x.count(entry, scope));
+                seen.add(x.found(entry, scope, 1));
+            }
+        }
     }
 
     private static void refusedMakes() {
@@ -243,6 +256,7 @@ public final class RefusalsTest extends Checks {
         unchanged(RefusalsTest::withoutFilters, -3, x -> x.token(NOT, 0, 0));
         unchanged(RefusalsTest::withoutFilters, -3, x -> x.token(OR, 0, 0));
         unchanged(RefusalsTest::crowded, -4, x -> x.token(PRESENT, 0, 0));
+        unchanged(RefusalsTest::crowded, -4, x -> x.token(EQUAL, 0, 0));
         unchanged(RefusalsTest::crowded, -4, x -> x.token(CONTAINS, 5, 0));
     }
 
