@@ -5,9 +5,12 @@ import java.lang.reflect.Method;
 import java.lang.reflect.Modifier;
 import java.nio.file.Files;
 import java.nio.file.Path;
+import java.util.Arrays;
+import java.util.Comparator;
 import java.util.HashMap;
 import java.util.HashSet;
 import java.util.Map;
+import java.util.Random;
 import java.util.Set;
 import java.util.TreeMap;
 import java.util.TreeSet;
@@ -32,6 +35,13 @@ public final class LanguageTest {
     private static final Pattern CALL = Pattern.compile("\\b(\\w+)\\(");
     private static final Set<String> NO_CALLS = Set.of("if", "for", "while", "switch", "return");
 
+    /** Edges of every range that an argument can have, and numbers far beyond them. */
+    private static final int[] ARGUMENTS = {
+        Integer.MIN_VALUE, -1001, -1000, -999, -1, 0, 0, 0, 1, 1, 2, 3, 4, 5, 6, 7, 8, 9, 10, 11, 12, 13, 14, 15, 16,
+        17, 18, 19, 20, 21, 22, 23, 24, 25, 62, 63, 64, 215, 216, 999, 1000, Integer.MAX_VALUE};
+    private static final int MANY_CALLS = 500_000;
+    private static final Set<String> EMPTYING = Set.of("remove", "drop", "clear");
+
     private static int wrong = 0;
 
     public static void main(String[] args) throws IOException {
@@ -43,6 +53,7 @@ public final class LanguageTest {
         arrays(code);
         methods(code);
         nestedCalls(code);
+        neverThrows();
         System.out.println(wrong + " rules broken");
         if (wrong != 0) {
             System.exit(1);
@@ -71,6 +82,8 @@ public final class LanguageTest {
             } else {
                 hold(method.getReturnType() == int.class && method.getModifiers() == Modifier.PUBLIC,
                     "rule 1: " + method.getName() + " answers an int and is public alone");
+                hold(Arrays.stream(method.getParameterTypes()).allMatch(taken -> taken == int.class),
+                    "rule 1: " + method.getName() + " takes ints alone");
                 open.add(method.getName() + "/" + method.getParameterCount());
             }
         }
@@ -176,6 +189,32 @@ public final class LanguageTest {
                 depth++;
             } else if (code.charAt(at) == ')') {
                 depth--;
+            }
+        }
+    }
+
+    /**
+     * One object far beyond its 512 calls: what it answers is free there, but it answers. The calls that empty it
+     * are rare, so that the tree, the sets of values and the stack get full in between.
+     */
+    private static void neverThrows() {
+        Method[] calls = Arrays.stream(DirectoryTree.class.getDeclaredMethods())
+            .filter(method -> Modifier.isPublic(method.getModifiers()))
+            .sorted(Comparator.comparing(Method::getName)).toArray(Method[]::new);
+        Random random = new Random(7);
+        DirectoryTree x = new DirectoryTree();
+        for (int made = 0; made < MANY_CALLS; made++) {
+            Method call = calls[random.nextInt(calls.length)];
+            if (EMPTYING.contains(call.getName()) && random.nextInt(500) != 0) {
+                continue;
+            }
+            Object[] arguments = random.ints(call.getParameterCount(), 0, ARGUMENTS.length)
+                .mapToObj(at -> ARGUMENTS[at]).toArray();
+            try {
+                call.invoke(x, arguments);
+            } catch (ReflectiveOperationException thrown) {
+                hold(false, "rule 7: " + call.getName() + Arrays.toString(arguments) + " threw " + thrown.getCause());
+                return;
             }
         }
     }
